@@ -504,8 +504,8 @@ public final class RackBench {
             changed = false;
             for (int a = 0; a < current.n; a++) {
                 for (int b = a + 1; b < current.n; b++) {
-                    if (classes.areOne(a, b)) {
-                        changed |= joinTurnsOf(a, b);
+                    if (classes.areOne(a, b) && joinTurnsOf(a, b)) {
+                        changed = true;
                     }
                 }
             }
@@ -515,8 +515,9 @@ public final class RackBench {
     private boolean joinTurnsOf(int a, int b) {
         boolean changed = false;
         for (int c = 0; c < current.n; c++) {
-            changed |= classes.join(current.turned(a, c), current.turned(b, c));
-            changed |= classes.join(current.turned(c, a), current.turned(c, b));
+            boolean asTurning = classes.join(current.turned(a, c), current.turned(b, c));
+            boolean asTurned = classes.join(current.turned(c, a), current.turned(c, b));
+            changed = changed || asTurning || asTurned;
         }
         return changed;
     }
@@ -1149,18 +1150,18 @@ public final class RackBench {
     /** Solves for closed twists by a prime: an unknown for each two things, a row for each three. */
     private static final class Solver {
         private final int[] steps = new int[CELLS * CELLS];
-        private final boolean[] leads = new boolean[CELLS];
         private final int[] equation = new int[CELLS];
         private int things = 1;
         private int unknowns = 1;
         private int prime = 2;
+        private long leads = 0;
 
         /** How many unknowns stay free. */
         int closedPower(Table rack, int p) {
             prime = p;
             things = rack.n;
             unknowns = things * things;
-            Arrays.fill(leads, false);
+            leads = 0;
             int free = unknowns;
             for (int a = 0; a < rack.n; a++) {
                 for (int b = 0; b < rack.n; b++) {
@@ -1192,8 +1193,8 @@ public final class RackBench {
         private boolean bindsOne() {
             for (int lead = 0; lead < unknowns; lead++) {
                 if (equation[lead] != 0) {
-                    if (!leads[lead]) {
-                        leads[lead] = true;
+                    if ((leads >> lead & 1L) == 0L) {
+                        leads |= 1L << lead;
                         keepStep(lead);
                         return true;
                     }

@@ -7,9 +7,15 @@ import java.util.Random;
 public final class OracleTest {
     private static final int RUNS = 1500;
     private static final int CALLS = 512;
+    private static final int TABLES_OF_TWO = 16;
+    private static final int TABLES_OF_THREE = 19683;
+    private static final int TABLES_BY_CHANCE = 10000;
     private static final int OPS = 33;
     private static final int THROWN = Integer.MIN_VALUE;
     private static final int[] EDGES = {-1, Integer.MIN_VALUE, Integer.MAX_VALUE, 8, 9, 24, 64, 256, -9};
+
+    private static int runs = 0;
+    private static int wrong = 0;
 
     private final Random random;
     private final RackBench bench = new RackBench();
@@ -22,18 +28,48 @@ public final class OracleTest {
     }
 
     public static void main(String[] args) {
-        int wrong = 0;
-        for (int run = 0; run < RUNS && wrong < 10; run++) {
+        for (int run = 0; run < RUNS; run++) {
             OracleTest test = new OracleTest(run);
-            boolean passed = run % 3 == 0 ? test.goThroughTables() : test.goThroughCalls();
-            if (!passed) {
-                wrong++;
-                int from = Math.max(0, test.trail.length() - 2000);
-                System.out.println("run " + run + ":" + test.trail.substring(from));
-            }
+            test.judge(run % 3 == 0 ? test.goThroughTables() : test.goThroughCalls());
         }
-        System.out.println("OracleTest: " + RUNS + " runs held against the oracle, " + wrong + " went wrong");
+        for (int code = 0; code < TABLES_OF_TWO + TABLES_OF_THREE; code++) {
+            OracleTest test = new OracleTest(code);
+            boolean two = code < TABLES_OF_TWO;
+            test.judge(test.goThroughSmallTable(two ? 2 : 3, two ? code : code - TABLES_OF_TWO));
+        }
+        for (int seed = 0; seed < TABLES_BY_CHANCE; seed++) {
+            OracleTest test = new OracleTest(seed);
+            test.judge(test.goThroughSmallTable(4 + seed % 2, test.random.nextInt(1 << 30)));
+        }
+        System.out.println("OracleTest: " + runs + " runs held against the oracle, " + wrong + " went wrong");
         System.exit(wrong == 0 ? 0 : 1);
+    }
+
+    private void judge(boolean passed) {
+        runs++;
+        if (!passed) {
+            wrong++;
+        }
+        if (!passed && wrong < 10) {
+            System.out.println("run " + runs + ":" + trail.substring(Math.max(0, trail.length() - 2000)));
+        }
+    }
+
+    /** A table by its number to the base n; one cell of it is changed, and it is named anew. */
+    private boolean goThroughSmallTable(int n, int code) {
+        int[][] t = new int[n][n];
+        int rest = code;
+        for (int i = 0; i < n * n; i++) {
+            t[i / n][i % n] = rest % n;
+            rest /= n;
+        }
+        List<int[]> names = Oracle.permutations(n);
+        boolean same = lay(t) && same(9) && same(13) && same(6, 0) && same(19, 1 + random.nextInt((1 << n) - 1));
+        same = same && lay(Oracle.renamed(t, names.get(random.nextInt(names.size())))) && same(15, 0);
+        int a = random.nextInt(n);
+        int b = random.nextInt(n);
+        same = same && same(1, a, b, (oracle.t[a][b] + 1) % n) && same(15, 0) && same(13);
+        return same && same(16) && same(12) && same(14) && sameState();
     }
 
     /** Calls of all kinds; now and then a closed twist is laid, or all that can be asked is asked. */

@@ -398,6 +398,7 @@ public final class PromiseTest {
         answersOf(lined(5, 2), 1, 0, 1, 1, 1);
         answersOf(lined(4, 3), 1, 1, 0, 0, 0);
         answersOf(turned(3, 3), 0, 0, 1, 0, 0);
+        answersOf(told("0231 0123 0123 0123"), 1, 0, 0, 0, 0);
         answersOf(turned(2, 1), 0, 1, 1, 0, 0);
         RackBench x = new RackBench();
         x.group(1);
@@ -582,6 +583,9 @@ public final class PromiseTest {
         x.line(4, 3);
         same("0 and 1", x.part(0, 1), 1);
         tableIs(x, "0");
+        lay(x, "02143 01234 01234 01234 01234");
+        same("only 0 moves any", x.part(1, 3), 3);
+        tableIs(x, "021 012 012");
         x.turn(4, 23);
         same("0 and 1 of turns", x.part(0, 1), 2);
         tableIs(x, "10 10");
