@@ -453,6 +453,7 @@ public final class PromiseTest {
         same("eight in a ring", turned(8, 5913).moves(), 8);
         same("a ring of three, one of five",
                 told(String.join(" ", Collections.nCopies(8, "12045673"))).moves(), 15);
+        same("only 0 moves any", told("0231 0123 0123 0123").moves(), 3);
         same("nothing moves", told("0123 0123 0123 0123").moves(), 1);
         RackBench x = new RackBench();
         x.group(1);
@@ -710,6 +711,11 @@ public final class PromiseTest {
             x.twist(i / 3, i % 3, i % 2 + 1);
         }
         same("any twist where nothing moves", x.closed(), 0);
+        lay(x, "021 012 012");
+        x.twist(1, 1, 1);
+        x.twist(2, 2, 1);
+        same("not so for 1, 0, 1", x.closed(), 1);
+        rowIs(x, 1, 0, 1);
         x.set(0, 0, 1);
         same("no rack", x.closed(), NONE);
     }
@@ -760,7 +766,7 @@ public final class PromiseTest {
         promise = 27;
         int[] primes = {2, 3, 5, 7};
         String[] racks = {"0", "01 01", "10 10", "012 012 012", "021 021 021", "120 120 120", "021 210 102",
-            "012 012 102"};
+            "012 012 102", "021 012 012"};
         for (String rows : racks) {
             RackBench x = told(rows);
             x.modulus(6);
