@@ -148,7 +148,7 @@ public final class OracleTest {
         for (int what = 0; what < 5; what++) {
             same = same && same(8, what);
         }
-        for (int a = 0; a < n && calls < CALLS - 20; a++) {
+        for (int a = 0; a < n && calls < CALLS - 30; a++) {
             for (int b = 0; b < n; b++) {
                 same = same && same(2, a, b) && (calls > CALLS - 100 || same(22, a, b));
             }

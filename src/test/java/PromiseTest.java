@@ -1,14 +1,8 @@
 import java.util.Collections;
-import java.util.NoSuchElementException;
 
 /** Each promise of the document, by number, with answers that were worked out by hand. */
-public final class PromiseTest {
-    private static final int NONE = -1;
+public final class PromiseTest extends Checks {
     private static final int[] FAR = {-1, Integer.MIN_VALUE, Integer.MAX_VALUE};
-
-    private static int promise = 0;
-    private static int asked = 0;
-    private static int wrong = 0;
 
     public static void main(String[] args) {
         newObject();
@@ -46,128 +40,13 @@ public final class PromiseTest {
         pick();
         row();
         refusedCallsChangeNothing();
-        System.out.println("PromiseTest: " + asked + " answers looked at, " + wrong + " wrong");
-        System.exit(wrong == 0 ? 0 : 1);
-    }
-
-    // ---- how answers are looked at
-
-    private static void same(String what, long got, long due) {
-        asked++;
-        if (got != due) {
-            wrong++;
-            System.out.println("promise " + promise + ": " + what + " is " + got + ", due is " + due);
-        }
-    }
-
-    private static void yes(String what, boolean got) {
-        same(what, got ? 1 : 0, 1);
-    }
-
-    private static void no(String what, boolean got) {
-        same(what, got ? 1 : 0, 0);
-    }
-
-    private static void tableIs(RackBench x, String rows) {
-        StringBuilder got = new StringBuilder();
-        for (int a = 0; a < x.count(0); a++) {
-            got.append(a == 0 ? "" : " ");
-            for (int b = 0; b < x.count(0); b++) {
-                got.append(x.at(a, b));
-            }
-        }
-        asked++;
-        if (!rows.equals(got.toString())) {
-            wrong++;
-            System.out.println("promise " + promise + ": the table is " + got + ", due is " + rows);
-        }
-    }
-
-    private static void rowIs(RackBench x, int... due) {
-        same("numbers of the row", x.count(4), due.length);
-        for (int i = 0; i < Math.min(due.length, x.count(4)); i++) {
-            same("row(" + i + ")", x.row(i), due[i]);
-        }
-        yes("row behind its end throws", rowThrows(x, due.length));
-    }
-
-    private static boolean rowThrows(RackBench x, int i) {
-        try {
-            x.row(i);
-            return false;
-        } catch (NoSuchElementException e) {
-            return true;
-        }
-    }
-
-    private static boolean atThrows(RackBench x, int a, int b) {
-        try {
-            x.at(a, b);
-            return false;
-        } catch (NoSuchElementException e) {
-            return true;
-        }
-    }
-
-    /** The table told by its rows, "021 021 021". */
-    private static RackBench told(String rows) {
-        RackBench x = new RackBench();
-        lay(x, rows);
-        return x;
-    }
-
-    private static void lay(RackBench x, String rows) {
-        String[] row = rows.split(" ");
-        x.table(row.length);
-        for (int a = 0; a < row.length; a++) {
-            for (int b = 0; b < row.length; b++) {
-                x.set(a, b, row[a].charAt(b) - '0');
-            }
-        }
-    }
-
-    private static RackBench lined(int n, int t) {
-        RackBench x = new RackBench();
-        x.line(n, t);
-        return x;
-    }
-
-    private static RackBench turned(int n, int p) {
-        RackBench x = new RackBench();
-        x.turn(n, p);
-        return x;
-    }
-
-    /** Two tables side by side: the things of the one leave those of the other where they are. */
-    private static RackBench beside(RackBench one, RackBench other) {
-        int n = one.count(0);
-        int m = other.count(0);
-        RackBench x = new RackBench();
-        x.table(n + m);
-        for (int a = 0; a < n; a++) {
-            for (int b = 0; b < n; b++) {
-                x.set(a, b, one.at(a, b));
-            }
-        }
-        for (int a = 0; a < m; a++) {
-            for (int b = 0; b < m; b++) {
-                x.set(n + a, n + b, n + other.at(a, b));
-            }
-        }
-        return x;
-    }
-
-    private static void word(RackBench x, int m, int... letters) {
-        x.strands(m);
-        for (int i : letters) {
-            x.letter(i);
-        }
+        end("PromiseTest");
     }
 
     // ---- the promises
 
     private static void newObject() {
-        promise = 1;
+        where = "promise 1";
         RackBench x = new RackBench();
         same("NONE", RackBench.NONE, NONE);
         int[] due = {1, 2, 2, 0, 0};
@@ -186,7 +65,7 @@ public final class PromiseTest {
     }
 
     private static void table() {
-        promise = 2;
+        where = "promise 2";
         RackBench x = new RackBench();
         for (int n = 1; n <= 8; n++) {
             yes("table", x.table(n));
@@ -210,7 +89,7 @@ public final class PromiseTest {
     }
 
     private static void set() {
-        promise = 3;
+        where = "promise 3";
         RackBench x = new RackBench();
         x.table(3);
         x.twist(0, 1, 1);
@@ -227,7 +106,7 @@ public final class PromiseTest {
     }
 
     private static void at() {
-        promise = 4;
+        where = "promise 4";
         RackBench x = told("120 201 012");
         same("at(0, 2)", x.at(0, 2), 0);
         same("at(2, 0)", x.at(2, 0), 0);
@@ -240,7 +119,7 @@ public final class PromiseTest {
     }
 
     private static void line() {
-        promise = 5;
+        where = "promise 5";
         tableIs(lined(3, 2), "021 210 102");
         tableIs(lined(4, 3), "0321 2103 0321 2103");
         tableIs(lined(5, 2), "02413 41302 30241 24130 13024");
@@ -268,7 +147,7 @@ public final class PromiseTest {
     }
 
     private static void turn() {
-        promise = 6;
+        where = "promise 6";
         String[] three = {"012", "021", "102", "120", "201", "210"};
         for (int p = 0; p < 6; p++) {
             tableIs(turned(3, p), three[p] + " " + three[p] + " " + three[p]);
@@ -294,7 +173,7 @@ public final class PromiseTest {
     }
 
     private static void group() {
-        promise = 7;
+        where = "promise 7";
         RackBench x = new RackBench();
         int[] sizes = {1, 6, 6, 8, 8, 6, 6, 3, 8, 6, 6, 8, 8, 6, 6, 8, 3, 6, 6, 8, 8, 6, 6, 3};
         for (int p = 0; p < 24; p++) {
@@ -319,7 +198,7 @@ public final class PromiseTest {
     }
 
     private static void keep() {
-        promise = 8;
+        where = "promise 8";
         RackBench x = lined(3, 2);
         x.twist(0, 1, 1);
         yes("keep(0)", x.keep(0));
@@ -339,7 +218,7 @@ public final class PromiseTest {
     }
 
     private static void fetch() {
-        promise = 9;
+        where = "promise 9";
         RackBench x = told("11 01");
         x.keep(2);
         x.modulus(5);
@@ -357,7 +236,7 @@ public final class PromiseTest {
     }
 
     private static void count() {
-        promise = 10;
+        where = "promise 10";
         RackBench x = lined(5, 2);
         x.modulus(7);
         word(x, 4, 1, -3, 2);
@@ -372,7 +251,7 @@ public final class PromiseTest {
     }
 
     private static void wrong() {
-        promise = 11;
+        where = "promise 11";
         RackBench x = told("012 112 000");
         same("wrong()", x.wrong(), 1);
         rowIs(x, 1);
@@ -391,7 +270,7 @@ public final class PromiseTest {
     }
 
     private static void is() {
-        promise = 12;
+        where = "promise 12";
         answersOf(new RackBench(), 1, 1, 1, 1, 1);
         answersOf(told("012 012 012"), 1, 1, 0, 0, 0);
         answersOf(lined(3, 2), 1, 1, 1, 1, 1);
@@ -423,7 +302,7 @@ public final class PromiseTest {
     }
 
     private static void orbits() {
-        promise = 13;
+        where = "promise 13";
         RackBench x = turned(3, 2);
         same("orbits()", x.orbits(), 2);
         rowIs(x, 0, 0, 1);
@@ -442,7 +321,7 @@ public final class PromiseTest {
     }
 
     private static void moves() {
-        promise = 14;
+        where = "promise 14";
         RackBench tetra = new RackBench();
         tetra.pick(4, 1, 6);
         same("A4", tetra.moves(), 12);
@@ -463,7 +342,7 @@ public final class PromiseTest {
     }
 
     private static void keepers() {
-        promise = 15;
+        where = "promise 15";
         RackBench x = new RackBench();
         int due = 1;
         for (int n = 1; n <= 8; n++) {
@@ -480,7 +359,7 @@ public final class PromiseTest {
     }
 
     private static void least() {
-        promise = 16;
+        where = "promise 16";
         RackBench x = turned(3, 2);
         yes("another one", x.least());
         tableIs(x, "021 021 021");
@@ -502,7 +381,7 @@ public final class PromiseTest {
     }
 
     private static void like() {
-        promise = 17;
+        where = "promise 17";
         RackBench x = turned(3, 2);
         x.keep(1);
         same("itself", x.like(1), 1);
@@ -525,7 +404,7 @@ public final class PromiseTest {
     }
 
     private static void dual() {
-        promise = 18;
+        where = "promise 18";
         RackBench x = lined(5, 2);
         x.twist(0, 0, 1);
         yes("dual()", x.dual());
@@ -542,7 +421,7 @@ public final class PromiseTest {
     }
 
     private static void times() {
-        promise = 19;
+        where = "promise 19";
         RackBench x = lined(3, 2);
         x.keep(0);
         x.turn(2, 1);
@@ -574,7 +453,7 @@ public final class PromiseTest {
     }
 
     private static void part() {
-        promise = 20;
+        where = "promise 20";
         RackBench x = lined(4, 3);
         same("0 and 2", x.part(0, 2), 3);
         tableIs(x, "021 012 012");
@@ -608,7 +487,7 @@ public final class PromiseTest {
     }
 
     private static void within() {
-        promise = 21;
+        where = "promise 21";
         RackBench x = lined(4, 3);
         same("0 and 2", x.within(5), 2);
         rowIs(x, 0, 2);
@@ -634,7 +513,7 @@ public final class PromiseTest {
     }
 
     private static void modulus() {
-        promise = 22;
+        where = "promise 22";
         RackBench x = lined(3, 2);
         for (int k = 2; k <= 7; k++) {
             x.twist(2, 2, 1);
@@ -653,7 +532,7 @@ public final class PromiseTest {
     }
 
     private static void twist() {
-        promise = 23;
+        where = "promise 23";
         RackBench x = lined(3, 2);
         x.modulus(3);
         yes("twist", x.twist(0, 2, 2));
@@ -674,7 +553,7 @@ public final class PromiseTest {
     }
 
     private static void twisted() {
-        promise = 24;
+        where = "promise 24";
         RackBench x = lined(3, 2);
         x.modulus(7);
         x.twist(1, 2, 5);
@@ -692,7 +571,7 @@ public final class PromiseTest {
     }
 
     private static void closed() {
-        promise = 25;
+        where = "promise 25";
         RackBench x = lined(3, 2);
         x.modulus(3);
         x.within(1);
@@ -730,7 +609,7 @@ public final class PromiseTest {
     }
 
     private static void cover() {
-        promise = 26;
+        where = "promise 26";
         RackBench x = turned(2, 1);
         x.modulus(3);
         x.twist(0, 0, 1);
@@ -763,7 +642,7 @@ public final class PromiseTest {
     }
 
     private static void power() {
-        promise = 27;
+        where = "promise 27";
         int[] primes = {2, 3, 5, 7};
         String[] racks = {"0", "01 01", "10 10", "012 012 012", "021 021 021", "120 120 120", "021 210 102",
             "012 012 102", "021 012 012"};
@@ -824,7 +703,7 @@ public final class PromiseTest {
     }
 
     private static void strands() {
-        promise = 28;
+        where = "promise 28";
         RackBench x = new RackBench();
         for (int m = 2; m <= 4; m++) {
             yes("strands", x.strands(m));
@@ -842,7 +721,7 @@ public final class PromiseTest {
     }
 
     private static void letter() {
-        promise = 29;
+        where = "promise 29";
         RackBench x = new RackBench();
         for (int m = 2; m <= 4; m++) {
             x.strands(m);
@@ -861,7 +740,7 @@ public final class PromiseTest {
     }
 
     private static void colours() {
-        promise = 30;
+        where = "promise 30";
         RackBench x = lined(3, 2);
         word(x, 2, 1, 1, 1);
         same("a trefoil by 3", x.colours(), 9);
@@ -889,7 +768,7 @@ public final class PromiseTest {
     }
 
     private static void sums() {
-        promise = 31;
+        where = "promise 31";
         RackBench x = new RackBench();
         x.table(2);
         x.modulus(3);
@@ -941,7 +820,7 @@ public final class PromiseTest {
     }
 
     private static void listed() {
-        promise = 32;
+        where = "promise 32";
         RackBench x = new RackBench();
         int[] racks = {1, 2, 6, 19};
         int[] quandles = {1, 1, 3, 7};
@@ -959,7 +838,7 @@ public final class PromiseTest {
     }
 
     private static void pick() {
-        promise = 33;
+        where = "promise 33";
         String[] racks = {"012 012 012", "012 012 102", "012 021 021", "021 021 021", "021 210 102", "120 120 120"};
         for (int i = 0; i < racks.length; i++) {
             RackBench x = new RackBench();
@@ -1004,7 +883,7 @@ public final class PromiseTest {
     }
 
     private static void row() {
-        promise = 34;
+        where = "promise 34";
         RackBench x = new RackBench();
         yes("empty", rowThrows(x, 0));
         x.line(4, 3);
@@ -1023,7 +902,7 @@ public final class PromiseTest {
 
     /** One object goes through every refused call there is and stands as it stood. */
     private static void refusedCallsChangeNothing() {
-        promise = 0;
+        where = "refused calls";
         RackBench x = told("012 021 012");
         x.modulus(5);
         x.twist(2, 1, 4);
